@@ -178,6 +178,9 @@ final class AsksTest {
         Due.make(x, 1, "b2e");
         Due.make(x, 5, "c");
         DUE.is("count(4)", x.count(4), Due.set(1, 5));
+        x.compose(0, 5, 5);
+        DUE.is("count(4) with the first", x.count(4), Due.set(0, 1, 5));
+        x.undo();
         DUE.is("count(6)", x.count(6), 5);
         x.weave(1, 7);
         x.weave(5, 1);

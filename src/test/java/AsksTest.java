@@ -209,12 +209,11 @@ final class AsksTest {
     private static int fingerprint(TreadleKernels x) {
         int sum = 0;
         for (int a = 0; a < 12; a++) {
-            for (int b = 0; b < 8; b++) {
-                sum = sum * 31 + x.place(a, b) + x.treadle(a, b) * 3 + x.draft(a, b) * 5 + x.press(a, b) * 7;
-                sum = sum * 31 + x.comesTo(a, b, a) + x.count(b) * 3 + x.kernel(a) * 5 + x.orbit(b, a) * 7;
-                sum = sum * 31 + x.pair(a, b, a % 5) + x.ways(a) * 3 + x.untilHome(a) * 5 + x.bestDraft(b) * 7;
-                sum = sum * 31 + x.fault();
-            }
+            int b = a % 8;
+            sum = sum * 31 + x.place(a, b) + x.treadle(a, b) * 3 + x.draft(a, b) * 5 + x.press(a, b) * 7;
+            sum = sum * 31 + x.comesTo(a, b, a) + x.count(b) * 3 + x.kernel(a) * 5 + x.orbit(b, a) * 7;
+            sum = sum * 31 + x.pair(a, b, a % 5) + x.ways(a) * 3 + x.untilHome(a) * 5 + x.bestDraft(b) * 7;
+            sum = sum * 31 + x.fault();
         }
         return sum;
     }

@@ -3,6 +3,7 @@ final class Due {
     private static final int NO_SUCH = -1, BAD_VALUE = -2;
 
     private final String test;
+    private String sentence = "";
     private int asked = 0;
     private int wrong = 0;
 
@@ -10,11 +11,23 @@ final class Due {
         this.test = test;
     }
 
+    /** The sentence of the document that the next calls look at. */
+    void sentence(String words) {
+        sentence = " \"" + words + "\"";
+    }
+
     void is(String call, long got, long want) {
         asked++;
         if (got == want) return;
         wrong++;
-        System.out.println(test + ": " + call + " answered " + got + ", due is " + want);
+        System.out.println(test + sentence + ": " + call + " answered " + got + ", due is " + want);
+    }
+
+    void same(String call, String got, String want) {
+        asked++;
+        if (got.equals(want)) return;
+        wrong++;
+        System.out.println(test + sentence + ": " + call + " told\n  " + got + ", due is\n  " + want);
     }
 
     void noSuch(String call, long got) {

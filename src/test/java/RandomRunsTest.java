@@ -6,9 +6,6 @@ final class RandomRunsTest {
     private static final int CALLS = 512;
     private static final int FIRST_CALL = 2;
     private static final int LAST_CALL = 27;
-    private static final String[] NAMES = {"", "", "put", "tie", "read", "compose", "turnRound", "repeat", "weave",
-        "dye", "place", "treadle", "draft", "press", "comesTo", "count", "kernel", "orbit", "pair", "ways",
-        "untilHome", "bestDraft", "write", "wipe", "fault", "undo", "save", "restore"};
     // How far the arguments of a call go; a thousandth of them and of all others go farther.
     private static final int[][] BOUNDS = {{}, {}, {12, 6}, {6, 64}, {6}, {6, 6, 6}, {6, 6}, {6, 6, 25}, {6, 1001},
         {12, 4}, {12, 4}, {6, 2}, {6, 7}, {6, 24}, {6, 12, 1001}, {7}, {64}, {64, 12}, {6, 6, 4}, {64}, {6}, {2}, {},
@@ -27,7 +24,7 @@ final class RandomRunsTest {
     private void runAll() {
         for (int run = 0; run < RUNS; run++) runOne(run);
         for (int call = FIRST_CALL; call <= LAST_CALL; call++) {
-            due.is("good answers of " + NAMES[call] + " enough", good[call] > RUNS ? 1 : 0, 1);
+            due.is("good answers of " + Calls.NAMES[call] + " enough", good[call] > RUNS ? 1 : 0, 1);
         }
         due.end();
     }
@@ -45,8 +42,8 @@ final class RandomRunsTest {
             int c = argument(call, 2, isWild);
             if (call == 3 && isNarrow && random.nextInt(4) > 0) b = 1 << random.nextInt(6);
             long characters = isWild && random.nextInt(3) == 0 ? random.nextLong() >> random.nextInt(64) : text();
-            int answer = ask(loom, call, a, b, c, characters);
-            String told = "run " + run + ", call " + number + ": " + NAMES[call] + "(" + a + ", " + b + ", " + c + ", " + characters + ")";
+            int answer = Calls.ask(loom, call, a, b, c, characters);
+            String told = "run " + run + ", call " + number + ": " + Calls.NAMES[call] + "(" + a + ", " + b + ", " + c + ", " + characters + ")";
             due.is(told, answer, model.answer(call, a, b, c, characters));
             if (answer >= 0 || answer == TreadleKernels.NONE) good[call]++;
         }
@@ -79,36 +76,5 @@ final class RandomRunsTest {
             if (text.length() < length && random.nextInt(6) == 0) text.append((char) ('2' + random.nextInt(8)));
         }
         return Due.text(text.toString());
-    }
-
-    private static int ask(TreadleKernels x, int call, int a, int b, int c, long characters) {
-        switch (call) {
-            case 2: return x.put(a, b);
-            case 3: return x.tie(a, b);
-            case 4: return x.read(a);
-            case 5: return x.compose(a, b, c);
-            case 6: return x.turnRound(a, b);
-            case 7: return x.repeat(a, b, c);
-            case 8: return x.weave(a, b);
-            case 9: return x.dye(a, b);
-            case 10: return x.place(a, b);
-            case 11: return x.treadle(a, b);
-            case 12: return x.draft(a, b);
-            case 13: return x.press(a, b);
-            case 14: return x.comesTo(a, b, c);
-            case 15: return x.count(a);
-            case 16: return x.kernel(a);
-            case 17: return x.orbit(a, b);
-            case 18: return x.pair(a, b, c);
-            case 19: return x.ways(a);
-            case 20: return x.untilHome(a);
-            case 21: return x.bestDraft(a);
-            case 22: return x.write(characters);
-            case 23: return x.wipe();
-            case 24: return x.fault();
-            case 25: return x.undo();
-            case 26: return x.save(a);
-            default: return x.restore(a);
-        }
     }
 }

@@ -14,24 +14,26 @@ final class UndoTest {
     }
 
     private static void promise25UndoOfEachChange() {
+        for (int change = 0; change < 9; change++) {
+            undoOfChange(change, false);
+            undoOfChange(change, true);
+        }
+    }
+
+    private static void undoOfChange(int change, boolean same) {
         TreadleKernels x = new TreadleKernels();
         x.tie(0, 3);
         Due.make(x, 0, "ab");
         x.weave(0, 2);
-        int before = state(x);
         x.save(0);
-        int kept = x.count(6);
-        for (int change = 0; change < 9; change++) {
-            for (int same = 0; same < 2; same++) {
-                Due.write(x, "cE");
-                change(x, change, same == 1);
-                DUE.is("changes after change " + change, x.count(6), kept + 1);
-                x.wipe();
-                if (same == 0 && change != 8) DUE.is("state after change " + change, state(x) == before ? 1 : 0, 0);
-                DUE.is("undo of change " + change, x.undo(), kept);
-                DUE.is("state after undo of change " + change, state(x), before);
-            }
-        }
+        String before = State.of(x);
+        Due.write(x, "cE");
+        change(x, change, same);
+        DUE.is("changes after change " + change, x.count(6), 4);
+        x.wipe();
+        if (!same && change != 8) DUE.is("state after change " + change, State.of(x).equals(before) ? 1 : 0, 0);
+        DUE.is("undo of change " + change, x.undo(), 3);
+        DUE.same("state after undo of change " + change, State.of(x), before);
     }
 
     private static void change(TreadleKernels x, int change, boolean same) {
@@ -135,7 +137,7 @@ final class UndoTest {
         Due.make(x, 1, "cA");
         x.dye(5, 2);
         x.weave(1, 3);
-        int before = state(x);
+        String before = State.of(x);
         int atHome = x.save(1);
         DUE.is("restore(0) of the other", x.restore(0), -5);
         x.put(3, 2);
@@ -144,11 +146,11 @@ final class UndoTest {
         x.dye(5, 1);
         x.weave(1, 1);
         DUE.is("restore(1)", x.restore(1), atHome);
-        DUE.is("state after restore", state(x), before);
+        DUE.same("state after restore", State.of(x), before);
         x.weave(1, 1);
         x.dye(0, 1);
         DUE.is("restore(1) again", x.restore(1), atHome);
-        DUE.is("state after restore again", state(x), before);
+        DUE.same("state after restore again", State.of(x), before);
     }
 
     private static void promise27RestoreLeavesPadAndHistory() {
@@ -166,18 +168,5 @@ final class UndoTest {
         DUE.is("undo", x.undo(), 1);
         DUE.is("colour after undo", x.place(1, 2), 0);
         DUE.is("other colour after undo", x.place(0, 2), 1);
-    }
-
-    /** A number that stands for all that undo brings back. */
-    private static int state(TreadleKernels x) {
-        int sum = 0;
-        for (int place = 0; place < 12; place++) {
-            for (int what = 0; what < 3; what++) sum = sum * 31 + x.place(place, what);
-        }
-        for (int i = 0; i < 6; i++) {
-            sum = sum * 31 + x.treadle(i, 0);
-            for (int press = 0; press < 24; press++) sum = sum * 31 + x.press(i, press);
-        }
-        return (sum * 31 + x.count(1)) * 31 + x.count(2);
     }
 }

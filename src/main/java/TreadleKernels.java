@@ -462,7 +462,7 @@ public final class TreadleKernels {
         }
 
         void append(Draft other) {
-            for (int index = 0; index < other.length; index++) add(other.pressAt(index));
+            for (int index = 0; index < other.length && index < MOST_PRESSES; index++) add(other.pressAt(index));
         }
 
         void appendTurned(Draft other) {
@@ -553,7 +553,7 @@ public final class TreadleKernels {
             Draft woven = draftAt(draft);
             if (woven == null) return Row.HOME;
             long way = Row.HOME;
-            for (int index = 0; index < woven.length; index++) {
+            for (int index = 0; index < woven.length && index < MOST_PRESSES; index++) {
                 way = Way.then(way, wayOfPress(woven.pressAt(index)));
             }
             return way;

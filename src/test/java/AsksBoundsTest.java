@@ -26,6 +26,7 @@ final class AsksBoundsTest {
         comesToTimes();
         comesToWithoutDraftOrPlace();
         countWhat();
+        countOfThreadsAtHome();
         countOfWeaving();
         countOfSets();
         countOfPadAndChanges();
@@ -315,6 +316,24 @@ final class AsksBoundsTest {
         for (int what = 1; what < 7; what++) DUE.is("count(" + what + ")", x.count(what), 0);
     }
 
+    private static void countOfThreadsAtHome() {
+        DUE.sentence("0 threads at home");
+        TreadleKernels x = new TreadleKernels();
+        DUE.is("all", x.count(0), 12);
+        Due.make(x, 0, "f");
+        x.weave(0, 1);
+        DUE.is("all but two", x.count(0), 10);
+        x.tie(0, 63);
+        Due.make(x, 1, "af");
+        x.weave(1, 1);
+        DUE.is("none", x.count(0), 0);
+        x.undo();
+        x.undo();
+        x.undo();
+        x.undo();
+        DUE.is("all again", x.count(0), 12);
+    }
+
     private static void countOfWeaving() {
         DUE.sentence("1 presses so far, by weave(), 2 picks so far: how often a draft was woven, by weave()");
         TreadleKernels x = new TreadleKernels();
@@ -390,7 +409,7 @@ final class AsksBoundsTest {
     }
 
     private static void kernelOutOfRange() {
-        DUE.sentence("BAD_VALUE if drafts is out of range.");
+        DUE.sentence("a set of drafts, 0 to 63");
         TreadleKernels x = new TreadleKernels();
         DUE.is("kernel(-1)", x.kernel(-1), BAD_VALUE);
         DUE.is("kernel(64)", x.kernel(64), BAD_VALUE);

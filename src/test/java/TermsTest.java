@@ -42,6 +42,7 @@ final class TermsTest {
         asksChangeNothing();
         noneComesAfterTheErrors();
         numbersStartAtZero();
+        setsAreBitMasks();
         farNumbersAreRefused();
         shaftsAtFirst();
         treadlesAtFirst();
@@ -51,11 +52,14 @@ final class TermsTest {
         backGoesRound();
         threadsOfNoneOrOneStay();
         draftsHoldTwentyFour();
+        draftsHaveNoPressesAtFirst();
+        pressesComeOneAfterTheOther();
         draftsTellByTheTiesAsTheyAre();
         draftsAlike();
         orderIsAtLeastOnce();
         placeStaysIfItComesAgain();
         cycleIsTwoOrMore();
+        cycleGoesFromTheLastToTheFirst();
         waysOfNotAtAll();
         padHoldsForty();
         treadleLetters();
@@ -65,6 +69,7 @@ final class TermsTest {
         faultOfFirstCharacter();
         faultOfTooManyPresses();
         faultOfEmptyText();
+        callsUpTo512();
         DUE.end();
     }
 
@@ -148,6 +153,20 @@ final class TermsTest {
         DUE.is("no thread", x.dye(12, 0), NO_SUCH);
         DUE.is("last slot", x.save(1), 12);
         DUE.is("no slot", x.save(2), BAD_VALUE);
+    }
+
+    private static void setsAreBitMasks() {
+        DUE.sentence("Sets are bit masks.");
+        TreadleKernels x = new TreadleKernels();
+        for (int shaft = 0; shaft < 6; shaft++) {
+            x.tie(0, 1 << shaft);
+            DUE.is("places on " + shaft, x.treadle(0, 1), 1 << shaft | 1 << shaft + 6);
+        }
+        for (int draft = 0; draft < 6; draft++) {
+            Due.make(x, draft, "f");
+            DUE.is("drafts to " + draft, x.count(4), (1 << draft + 1) - 1);
+        }
+        DUE.is("the last place", x.orbit(0, 11), 1 << 11);
     }
 
     private static void farNumbersAreRefused() {
@@ -252,6 +271,29 @@ final class TermsTest {
         DUE.is("repeat of 48", x.repeat(2, 0, 2), TOO_MANY);
     }
 
+    private static void draftsHaveNoPressesAtFirst() {
+        DUE.sentence("forward or back (none at first)");
+        TreadleKernels x = new TreadleKernels();
+        for (int draft = 0; draft < 6; draft++) {
+            DUE.is("presses of " + draft, x.draft(draft, 0), 0);
+            DUE.is("the first press of " + draft, x.press(draft, 0), NO_SUCH);
+        }
+    }
+
+    private static void pressesComeOneAfterTheOther() {
+        DUE.sentence("To weave a draft means to press these one after the other.");
+        TreadleKernels x = new TreadleKernels();
+        x.tie(0, 3);
+        x.tie(1, 6);
+        Due.make(x, 0, "aB");
+        Due.make(x, 1, "Ba");
+        // From 1 a forward goes to 6 and b back to 8; from 8 a leaves it, from 6 b leaves it.
+        DUE.is("forward first", x.comesTo(0, 1, 1), 6);
+        DUE.is("back first", x.comesTo(1, 1, 1), 8);
+        DUE.is("forward, then back", x.comesTo(0, 0, 1), 8);
+        DUE.is("back, then forward", x.comesTo(1, 0, 1), 1);
+    }
+
     private static void draftsTellByTheTiesAsTheyAre() {
         DUE.sentence("by shafts and ties as they are");
         TreadleKernels x = new TreadleKernels();
@@ -307,6 +349,22 @@ final class TermsTest {
         DUE.is("cycles of a swap", x.draft(0, 3), 1);
         DUE.is("cycles of none that moves", x.draft(1, 3), 0);
         DUE.is("cycles of no presses", x.draft(5, 3), 0);
+    }
+
+    private static void cycleGoesFromTheLastToTheFirst() {
+        DUE.sentence("from each of which the thread comes to the next one, and from the last to the first");
+        TreadleKernels x = new TreadleKernels();
+        x.tie(0, 0b100101);
+        Due.make(x, 0, "a");
+        DUE.is("cycles", x.draft(0, 3), 1);
+        DUE.is("places of the cycle", x.draft(0, 4), 6);
+        int[] next = {2, 0, 5, 0, 0, 6, 8, 0, 11, 0, 0, 0};
+        int place = 0;
+        for (int step = 0; step < 6; step++) {
+            DUE.is("from " + place, x.comesTo(0, place, 1), next[place]);
+            place = next[place];
+        }
+        DUE.is("after the last", place, 0);
     }
 
     private static void waysOfNotAtAll() {
@@ -393,6 +451,20 @@ final class TermsTest {
         Due.write(x, "ab");
         x.read(0);
         DUE.is("after read", x.fault(), 0);
+    }
+
+    private static void callsUpTo512() {
+        DUE.sentence("An object is used for at most 512 calls after it has been made");
+        TreadleKernels x = new TreadleKernels();
+        x.tie(0, 63);
+        x.write('a');
+        x.read(0);
+        for (int call = 4; call < 508; call++) DUE.is("call " + call, x.weave(0, 1), call % 12 == 3 ? 12 : 0);
+        DUE.is("call 508", x.count(2), 504);
+        DUE.is("call 509", x.undo(), 5);
+        DUE.is("call 510", x.count(2), 503);
+        DUE.is("call 511", x.untilHome(0), 1);
+        DUE.is("call 512", x.ways(63), 12);
     }
 
     private static int faultOf(String text) {

@@ -10,6 +10,7 @@ final class TextsBoundsTest {
         writeNoCharacter();
         writeCodes();
         writeAboveTheEnd();
+        writeNothingAboveTheEnd();
         writeTooMany();
         wipeTellsTheLength();
         faultOrNone();
@@ -89,6 +90,17 @@ final class TextsBoundsTest {
         }
         DUE.is("pad", x.count(5), 0);
         DUE.is("no bit above", x.write(0x61616161616161L), 7);
+    }
+
+    private static void writeNothingAboveTheEnd() {
+        DUE.sentence("8 bits that are 0 mean that there are no more characters, and everything above them has to be 0, too.");
+        TreadleKernels x = new TreadleKernels();
+        DUE.is("a character above the end", x.write(0x610062L), BAD_VALUE);
+        DUE.is("a character far above the end", x.write(0x6100000000000062L), BAD_VALUE);
+        DUE.is("the top bit above the end", x.write(Long.MIN_VALUE | 0x62L), BAD_VALUE);
+        DUE.is("no more characters", x.write(0x62L), 1);
+        DUE.is("read", x.read(0), 1);
+        DUE.is("press", x.press(0, 0), 1);
     }
 
     private static void writeTooMany() {
@@ -300,7 +312,7 @@ final class TextsBoundsTest {
     }
 
     private static void saveTellsThreadsAtHome() {
-        DUE.sentence("Returns how many threads are at home.");
+        DUE.sentence("Returns how many threads are at home");
         TreadleKernels x = new TreadleKernels();
         DUE.is("all", x.save(0), 12);
         x.tie(0, 31);
